@@ -1,4 +1,4 @@
-/** Keys on a consistent-hashing ring of nodes with replicas; the promises named here are the document's. */
+/** Keys on a consistent-hashing ring of nodes with replicas, as ../shared/DOC.md promises. */
 public final class ChordRing {
     public static final int OK = 0;
     public static final int ERR_RANGE = -1;

@@ -33,6 +33,10 @@ final class Model {
         return new TreeSet<>(inOrder(key, live).subList(0, Math.min(replicas, live.size())));
     }
 
+    TreeSet<Integer> holdersOf(int key) {
+        return holders.containsKey(key) ? holders.get(key) : new TreeSet<>();
+    }
+
     private int repair() {
         int created = 0;
         if (live.isEmpty()) {
