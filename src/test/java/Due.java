@@ -1,35 +1,46 @@
+import java.util.function.Supplier;
+import java.util.function.ToIntFunction;
+
 /** Counts and prints the answers that are not the ones due; shared by the tests. */
 final class Due {
     /** Arguments out of range: next to the edges, far away, and in range only after a wrap or a mask. */
     static final int[] OUT_OF_RANGE = {
-        -1, -2, -255, -256, -257, 256, 257, 266, 511, 512, 1000, 65536,
+        -1, -2, -246, -255, -256, -257, 256, 257, 266, 511, 512, 1000, 65536, 65546,
         Integer.MIN_VALUE, Integer.MIN_VALUE + 10, Integer.MAX_VALUE, Integer.MAX_VALUE - 245
     };
 
     private static int wrong = 0;
+    private static String sentence = "";
 
     private Due() {
     }
 
+    /** The sentence of the document that the checks from here on hold to; told beside a wrong answer. */
+    static void sentence(String words) {
+        sentence = words;
+    }
+
     static void due(String call, long got, long want) {
         if (got != want) {
-            wrong++;
-            System.out.println(call + " answered " + got + ", due is " + want);
+            tell(call + " answered " + got + ", due is " + want);
         }
     }
 
     static void due(String call, boolean got, boolean want) {
         if (got != want) {
-            wrong++;
-            System.out.println(call + " answered " + got + ", due is " + want);
+            tell(call + " answered " + got + ", due is " + want);
         }
     }
 
     static void same(String what, String got, String want) {
         if (!got.equals(want)) {
-            wrong++;
-            System.out.println(what + ": is\n  " + got + "\nand should be\n  " + want);
+            tell(what + ": is\n  " + got + "\nand should be\n  " + want);
         }
+    }
+
+    private static void tell(String fault) {
+        wrong++;
+        System.out.println((sentence.isEmpty() ? "" : "'" + sentence + "' ") + fault);
     }
 
     static boolean anyWrong() {
@@ -49,10 +60,19 @@ final class Due {
         }
     }
 
-    /** Stores every key with ten times itself plus one. */
+    static int valueFor(int key) {
+        return 10 * key + 1;
+    }
+
     static void put(ChordRing ring, int... keys) {
         for (int key : keys) {
-            due("put(" + key + ")", ring.put(key, 10 * key + 1), ChordRing.OK);
+            due("put(" + key + ")", ring.put(key, valueFor(key)), ChordRing.OK);
+        }
+    }
+
+    static void values(String when, ChordRing ring, int... keys) {
+        for (int key : keys) {
+            due(when + ": valueOf(" + key + ")", ring.valueOf(key), valueFor(key));
         }
     }
 
@@ -71,10 +91,35 @@ final class Due {
         }
     }
 
+    /** That the nodes given are live, and no other. */
+    static void live(String when, ChordRing ring, int... want) {
+        for (int id = 0; id < ChordRing.RING; id++) {
+            boolean wanted = false;
+            for (int node : want) {
+                wanted = wanted || node == id;
+            }
+            due(when + ": isLive(" + id + ")", ring.isLive(id), wanted);
+        }
+        due(when + ": nodeCount()", ring.nodeCount(), want.length);
+    }
+
     static void counts(String when, ChordRing ring, int nodes, int keys, int pending) {
         due(when + ": nodeCount()", ring.nodeCount(), nodes);
         due(when + ": keyCount()", ring.keyCount(), keys);
         due(when + ": pendingCrashes()", ring.pendingCrashes(), pending);
+    }
+
+    /** That the call gives this negative status and leaves the ring as a twin that never had it. */
+    static void refused(String what, Supplier<ChordRing> make, ToIntFunction<ChordRing> call, int want) {
+        ChordRing ring = make.get();
+        due(what, call.applyAsInt(ring), want);
+        unchanged(what, ring, make.get());
+    }
+
+    /** That two rings answer alike, now and in calls to come; the calls to come use both up. */
+    static void unchanged(String what, ChordRing ring, ChordRing twin) {
+        same("the state after " + what, state(ring), state(twin));
+        same("what follows " + what, future(ring), future(twin));
     }
 
     /** All that the getters tell of the ring. */
@@ -114,6 +159,33 @@ final class Due {
                 text.append(" key ").append(key).append(" at ").append(ring.holderAt(key, i));
             }
         }
+        for (int node = 0; node < ChordRing.RING; node++) {
+            if (ring.holds(node, key)) {
+                text.append(" held by ").append(node);
+            }
+        }
         return text.toString();
+    }
+
+    /** What the ring answers when it is crashed, mended, filled up and run down. */
+    private static String future(ChordRing ring) {
+        StringBuilder text = new StringBuilder();
+        int crashes = 0;
+        for (int id = 0; id < ChordRing.RING && crashes < 2; id++) {
+            if (ring.isLive(id)) {
+                text.append(" crash ").append(ring.crash(id));
+                crashes++;
+            }
+        }
+        text.append(" stabilise ").append(ring.stabilise()).append(' ').append(state(ring));
+        for (int id = 0; id < ChordRing.RING; id += 5) {
+            text.append(" join ").append(ring.join(id)).append(" put ").append(ring.put(id, id));
+        }
+        text.append(' ').append(state(ring));
+        for (int id = 0; id < ChordRing.RING; id++) {
+            text.append(" remove ").append(id % 3 == 0 ? ring.remove(id) : 0);
+            text.append(" crash ").append(ring.crash(id));
+        }
+        return text.append(' ').append(state(ring)).toString();
     }
 }
