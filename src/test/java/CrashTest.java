@@ -9,6 +9,7 @@ public final class CrashTest {
         aKeyWithoutHolderIsLost();
         pendingGrowsByOne();
         noRepairRuns();
+        noRepairUntilARepairingCall();
         otherHoldersStay();
         survivorsKeepTheirValues();
         theAnswerCountsLostKeys();
@@ -114,6 +115,28 @@ public final class CrashTest {
         Due.due("crash(40)", ring.crash(40), 0);
         Due.due("pendingCrashes()", ring.pendingCrashes(), 2);
         Due.due("copies left to make", ring.stabilise(), 4);
+    }
+
+    private static void noRepairUntilARepairingCall() {
+        Due.sentence("Crashes are not repaired until a repairing call (stabilise, join, leave) runs.");
+        ChordRing ring = Sample.broken();
+        Due.put(ring, 5);
+        Due.due("remove(35)", ring.remove(35), ChordRing.OK);
+        Due.due("join(30)", ring.join(30), ChordRing.ERR_LIVE);
+        Due.due("leave(20)", ring.leave(20), ChordRing.ERR_NOT_LIVE);
+        Due.due("lookup(10, 15)", ring.lookup(10, 15), 30);
+        Due.holders("no repairing call", ring, 15, 30);
+        Due.holders("no repairing call", ring, 250, 10);
+        Due.due("no repairing call: pendingCrashes()", ring.pendingCrashes(), 1);
+        ChordRing joined = Sample.broken();
+        Due.join(joined, 200);
+        Due.holders("join", joined, 15, 30, 40);
+        ChordRing left = Sample.broken();
+        Due.due("leave(10)", left.leave(10), ChordRing.OK);
+        Due.holders("leave", left, 15, 30, 40);
+        Due.due("stabilise()", ring.stabilise(), 2);
+        Due.holders("stabilise", ring, 15, 30, 40);
+        Due.holders("stabilise", ring, 250, 10, 30);
     }
 
     private static void otherHoldersStay() {

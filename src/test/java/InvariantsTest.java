@@ -1,6 +1,22 @@
 /** What holds 'in every state reached from a fresh object by any sequence of calls', told by getters alone. */
 public final class InvariantsTest {
     private static final int CALLS = 500;
+    private static final String WAYS_OUT = "A key leaves STORE only by remove, by leave or crash of the"
+        + " last live node, or by a crash that answers a positive count while the crashed node was"
+        + " that key's only holder.";
+
+    // How often a key left the store, by each way out: a way that no run took would go untested.
+    private static int byRemove = 0;
+    private static int byLastLeave = 0;
+    private static int byLastCrash = 0;
+    private static int byLoss = 0;
+
+    private enum Call { JOIN, LEAVE, CRASH, STABILISE, PUT, REMOVE }
+
+    private static final Call[] GROW = {
+        Call.JOIN, Call.JOIN, Call.JOIN, Call.PUT, Call.PUT, Call.PUT, Call.CRASH, Call.REMOVE};
+    private static final Call[] SHRINK = {
+        Call.LEAVE, Call.CRASH, Call.CRASH, Call.PUT, Call.PUT, Call.PUT, Call.STABILISE, Call.REMOVE};
 
     private final ChordRing ring;
     private final int replicas;
@@ -18,12 +34,17 @@ public final class InvariantsTest {
             new InvariantsTest(32, 32, replicas, 27 + replicas).run(64);
             new InvariantsTest(12, 32, replicas, 37 + replicas).run(256);
         }
+        Due.sentence(WAYS_OUT);
+        Due.due("keys left by remove", byRemove > 0, true);
+        Due.due("keys left by a leave of the last live node", byLastLeave > 0, true);
+        Due.due("keys left by a crash of the last live node", byLastCrash > 0, true);
+        Due.due("keys left by a crash of their only holder", byLoss > 0, true);
         Due.finish();
     }
 
     private void run(int spread) {
         for (int i = 0; i < CALLS && !Due.anyWrong(); i++) {
-            callOnce(spread);
+            callOnce(i / 40 % 2 == 0 ? GROW : SHRINK, spread);
             for (int key = 0; key < ChordRing.RING; key++) {
                 if (stored(key)) {
                     everyLiveNodeFindsTheFirstHolder(key);
@@ -92,54 +113,63 @@ public final class InvariantsTest {
         return (int) ((seed >>> 33) % bound);
     }
 
-    private void callOnce(int spread) {
+    /** Mostly an id that the call can use: of all ids, few are live or stored. */
+    private int anId(Call call, int spread) {
+        int id = (next(spread) + 248) % ChordRing.RING;
+        boolean aimed = next(5) != 0;
+        for (int step = 0; aimed && step < ChordRing.RING; step++) {
+            int near = (id + step) % ChordRing.RING;
+            boolean departs = call == Call.LEAVE || call == Call.CRASH;
+            if (departs && ring.isLive(near) || call == Call.REMOVE && stored(near)) {
+                return near;
+            }
+        }
+        return id;
+    }
+
+    private int answerOf(Call call, int id) {
+        return switch (call) {
+            case JOIN -> ring.join(id);
+            case LEAVE -> ring.leave(id);
+            case CRASH -> ring.crash(id);
+            case STABILISE -> ring.stabilise();
+            case PUT -> ring.put(id, id - 100);
+            case REMOVE -> ring.remove(id);
+        };
+    }
+
+    private void callOnce(Call[] choice, int spread) {
+        Call call = choice[next(choice.length)];
+        int id = anId(call, spread);
         boolean[] was = new boolean[ChordRing.RING];
         boolean[] alone = new boolean[ChordRing.RING];
-        int id = (next(spread) + 248) % ChordRing.RING;
         for (int key = 0; key < ChordRing.RING; key++) {
             was[key] = stored(key);
             alone[key] = ring.holderAt(key, 0) == id && ring.holderAt(key, 1) == ChordRing.NONE;
         }
         boolean last = ring.nodeCount() == 1 && ring.isLive(id);
-        int call = next(20);
         int answer = answerOf(call, id);
-        Due.sentence("A key leaves STORE only by remove, by leave or crash of the last live node, or by"
-            + " a crash that answers a positive count while the crashed node was that key's only holder.");
+        Due.sentence(WAYS_OUT);
         for (int key = 0; key < ChordRing.RING; key++) {
             if (was[key] && !stored(key)) {
-                boolean removed = isRemove(call) && key == id && answer == ChordRing.OK;
-                boolean lastGone = last && (isLeave(call) || isCrash(call));
-                boolean lost = isCrash(call) && answer > 0 && alone[key];
-                Due.due("key " + key + " left the store rightly", removed || lastGone || lost, true);
+                boolean rightly = leftRightly(call, answer, last, key == id, alone[key]);
+                Due.due(call + " " + id + ": key " + key + " left the store rightly", rightly, true);
             }
         }
     }
 
-    private static boolean isLeave(int call) {
-        return call == 8 || call == 9;
-    }
-
-    private static boolean isCrash(int call) {
-        return call >= 10 && call <= 13;
-    }
-
-    private static boolean isRemove(int call) {
-        return call == 18;
-    }
-
-    private int answerOf(int call, int id) {
-        if (call < 8) {
-            return ring.join(id);
+    private static boolean leftRightly(Call call, int answer, boolean last, boolean named, boolean alone) {
+        if (call == Call.REMOVE && named && answer == ChordRing.OK) {
+            byRemove++;
+        } else if (call == Call.LEAVE && last) {
+            byLastLeave++;
+        } else if (call == Call.CRASH && last) {
+            byLastCrash++;
+        } else if (call == Call.CRASH && answer > 0 && alone) {
+            byLoss++;
+        } else {
+            return false;
         }
-        if (isLeave(call)) {
-            return ring.leave(id);
-        }
-        if (isCrash(call)) {
-            return ring.crash(id);
-        }
-        if (isRemove(call)) {
-            return ring.remove(id);
-        }
-        return call == 19 ? ring.stabilise() : ring.put(id, call);
+        return true;
     }
 }

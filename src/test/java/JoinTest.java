@@ -4,6 +4,7 @@ public final class JoinTest {
         outOfRange();
         alreadyLive();
         fullRing();
+        theFirstConditionThatApplies();
         orderOnAFullRing();
         aRefusedJoinChangesNothing();
         liveGrowsByOne();
@@ -50,6 +51,19 @@ public final class JoinTest {
             Due.due("join after a crash", ring.join(7), ChordRing.OK);
             Due.due("full once more", ring.join(0), ChordRing.ERR_FULL);
         }
+    }
+
+    private static void theFirstConditionThatApplies() {
+        Due.sentence("The conditions are examined in this order, and the first that applies decides the answer:");
+        ChordRing ring = Sample.fresh();
+        for (int nodes = 0; nodes < 8; nodes++) {
+            Due.due("join(256) with " + nodes + " nodes", ring.join(256), ChordRing.ERR_RANGE);
+            Due.due("join(" + nodes + ")", ring.join(nodes), ChordRing.OK);
+            Due.due("join(" + nodes + ") again", ring.join(nodes), ChordRing.ERR_LIVE);
+        }
+        Due.due("join(256) with 8 nodes", ring.join(256), ChordRing.ERR_RANGE);
+        Due.due("join(7) with 8 nodes", ring.join(7), ChordRing.ERR_LIVE);
+        Due.due("join(8) with 8 nodes", ring.join(8), ChordRing.ERR_FULL);
     }
 
     private static void orderOnAFullRing() {
@@ -139,6 +153,11 @@ public final class JoinTest {
         Due.counts("the crashed node joined", ring, 4, 8, 0);
         Due.values("the crashed node joined", ring, 1, 2, 11, 12, 21, 22, 31, 32);
         Due.keys("the crashed node joined", ring, 20, 1, 2, 11, 12);
+        for (int id : new int[] {1, 11, 32}) {
+            Due.join(ring, id);
+            Due.values("a node joined on a key", ring, 1, 2, 11, 12, 21, 22, 31, 32);
+        }
+        Due.counts("nodes joined on keys", ring, 7, 8, 0);
     }
 
     private static void countAndValuesStayAndPendingIsZero() {

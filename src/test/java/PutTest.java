@@ -9,6 +9,7 @@ public final class PutTest {
         overwritingOnAFullStore();
         anyIntIsAValue();
         holdersAreTopOfTheCurrentLive();
+        noMoreHoldersThanLiveNodes();
         storedBeforeOrNot();
         countGrowsOnlyForANewKey();
         noOtherKeyChanges();
@@ -118,6 +119,19 @@ public final class PutTest {
         Due.due("crash(40)", ring.crash(40), 0);
         Due.put(ring, 35);
         Due.holders("fewer nodes than R", ring, 35, 10, 30);
+    }
+
+    private static void noMoreHoldersThanLiveNodes() {
+        Due.sentence("and H(key) := top(key) for the current LIVE.");
+        ChordRing ring = new ChordRing(8, 8, 3);
+        Due.join(ring, 10, 20);
+        Due.put(ring, 5);
+        Due.due("no copy is missing", ring.stabilise(), 0);
+        Due.due("crash(10)", ring.crash(10), 0);
+        Due.put(ring, 5, 6);
+        Due.due("no copy is missing", ring.stabilise(), 0);
+        Due.due("the only holder crashes", ring.crash(20), 2);
+        Due.due("keyCount()", ring.keyCount(), 0);
     }
 
     private static void storedBeforeOrNot() {

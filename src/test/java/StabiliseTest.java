@@ -9,7 +9,9 @@ public final class StabiliseTest {
         pendingIsZeroInEveryCase();
         theAnswerCountsNewPairs();
         onlyStoredKeysCount();
+        everyPairCountedHoldsAfterwards();
         copiesMadeBeforeDoNotCount();
+        neverBelow0();
         zeroWithoutNodes();
         zeroWithoutCrashes();
         Due.finish();
@@ -103,6 +105,27 @@ public final class StabiliseTest {
         Due.due("stabilise() after a loss", lost.stabilise(), 2);
     }
 
+    private static void everyPairCountedHoldsAfterwards() {
+        Due.sentence("n is in H(k) after the call, and");
+        for (int crashed = 10; crashed <= 40; crashed += 10) {
+            ChordRing ring = Sample.whole();
+            ring.crash(crashed);
+            int before = copies(ring);
+            int answer = ring.stabilise();
+            Due.due("crash(" + crashed + "), then stabilise()", answer, copies(ring) - before);
+        }
+    }
+
+    private static int copies(ChordRing ring) {
+        int count = 0;
+        for (int node = 0; node < ChordRing.RING; node++) {
+            for (int key = 0; key < ChordRing.RING; key++) {
+                count += ring.holds(node, key) ? 1 : 0;
+            }
+        }
+        return count;
+    }
+
     private static void copiesMadeBeforeDoNotCount() {
         Due.sentence("n was not in H(k) before it.");
         ChordRing ring = Sample.broken();
@@ -122,6 +145,18 @@ public final class StabiliseTest {
         Due.put(single, 5, 15);
         Due.due("crash(10)", single.crash(10), 1);
         Due.due("stabilise() with R 1", single.stabilise(), 0);
+    }
+
+    private static void neverBelow0() {
+        Due.sentence("The answer is 0 or more.");
+        ChordRing ring = new ChordRing(8, 8, 3);
+        Due.join(ring, 10, 20, 30, 40);
+        Due.put(ring, 5, 15, 25, 35);
+        int[] want = {3, 0, 0, 0};
+        for (int i = 0; i < 4; i++) {
+            ring.crash(10 * i + 10);
+            Due.due("stabilise() with " + ring.nodeCount() + " nodes", ring.stabilise(), want[i]);
+        }
     }
 
     private static void zeroWithoutNodes() {

@@ -10,6 +10,8 @@ public final class TermsTest {
         distancesNeverTie();
         liveNodesStayWithinMaxNodes();
         storedKeysStayWithinMaxKeys();
+        storedValuesAreAnyInts();
+        holderSetsAreNeverEmpty();
         pendingCountsCrashesAlone();
         succOfALiveKeyIsTheKey();
         topOfFewerAndMoreNodesThanR();
@@ -131,6 +133,37 @@ public final class TermsTest {
             count += ring.holderAt(key, 0) != ChordRing.NONE ? 1 : 0;
         }
         return count;
+    }
+
+    private static void storedValuesAreAnyInts() {
+        Due.sentence("a map from each stored key k to a value V(k) (any int)");
+        int[] values = {Integer.MIN_VALUE, -256, -6, -1, 0, 1, 256, Integer.MAX_VALUE};
+        ChordRing ring = Sample.fresh();
+        Due.join(ring, 10, 20, 30);
+        for (int i = 0; i < values.length; i++) {
+            Due.due("put(" + i + ", " + values[i] + ")", ring.put(i, values[i]), ChordRing.OK);
+        }
+        Due.due("crash(10)", ring.crash(10), 0);
+        Due.due("stabilise()", ring.stabilise(), values.length);
+        for (int i = 0; i < values.length; i++) {
+            Due.due("valueOf(" + i + ")", ring.valueOf(i), values[i]);
+            Due.holders("value " + values[i], ring, i, 20, 30);
+        }
+    }
+
+    private static void holderSetsAreNeverEmpty() {
+        Due.sentence("and a holder set H(k), which is a NONEMPTY set of live node ids.");
+        ChordRing ring = new ChordRing(8, 8, 3);
+        Due.join(ring, 10, 20, 30, 40, 50);
+        Due.put(ring, 5, 35);
+        Due.due("crash(20)", ring.crash(20), 0);
+        Due.due("crash(10)", ring.crash(10), 0);
+        Due.holders("one holder is left", ring, 5, 30);
+        Due.holders("two holders are left", ring, 35, 40, 50);
+        Due.due("the last holder crashes", ring.crash(30), 1);
+        Due.holders("no holder, so not stored", ring, 5);
+        Due.due("no holder, so not stored", ring.remove(5), ChordRing.ERR_NO_KEY);
+        Due.due("keyCount()", ring.keyCount(), 1);
     }
 
     private static void pendingCountsCrashesAlone() {
